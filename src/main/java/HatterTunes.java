@@ -572,7 +572,7 @@ public final class HatterTunes {
             shop = other.shop;
         }
 
-        /** Called only while there is room. An undone HEAD may have left its numbers here. */
+        /** Called only while there is room. All is set, so that nothing hangs on what stood here before. */
         int addHead(int kind, int v) {
             int head = size;
             kinds[head] = kind;

@@ -160,6 +160,16 @@ public final class PromisesTest {
         due("WHEN of two YEARS", x.of(0, 5), -5);
         tune(x, "980818");
         due("WHEN of two YEARS", x.of(0, 5), 2);
+
+        HatterTunes y = withHeads(0, 0);
+        due("shop", shop(y, "grow 59"), 0);
+        tune(y, "100001");
+        due("WHEN of 60 YEARS", y.of(0, 5), 60);
+        due("shop", shop(y, "grow 60"), 1);
+        tune(y, "200000");
+        due("not within 60 YEARS", y.of(0, 5), -5);
+        y.pass(1);
+        due("WHEN of 60 YEARS from 1 on", y.of(0, 5), 60);
     }
 
     // The Terms' PITCH of each KIND, and NOTE.
@@ -1026,6 +1036,12 @@ public final class PromisesTest {
         due("still there", x.item(5, 0, 0), -13);
         due("nothing", x.tape(5, -1, Integer.MIN_VALUE), 1);
         due("NOTHING", x.item(5, 0, 0), -11);
+        x.tape(5, 0, 2);
+        due("nothing again", x.tape(5, -1, 2), 1);
+        due("nothing to read", x.read(5, 0), NO);
+        due("nothing to shift", x.shift(5, 0, 5, 0, 1), -11);
+        x.note(0);
+        due("nothing to judge", x.judge(5, 0), 100);
         x.tape(5, 3, 2);
         x.item(5, 0, 9);
         x.tape(5, 3, 2);
