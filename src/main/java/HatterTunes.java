@@ -37,11 +37,9 @@ public final class HatterTunes {
     private static final int FACTS = 6;
     private static final int LESS = 1, SAME = 2, MORE = 3, NOT = 4, AND = 5, OR = 6, BEND = 7;
 
-    /** Holds as long as there is no SHOP, so that a House always has one. */
-    private final Shop bare = new Shop();
-    private final House now = new House(bare);
-    private final House trial = new House(bare);
-    private final House kept = new House(bare);
+    private final House now = new House();
+    private final House trial = new House();
+    private final House kept = new House();
     private boolean imaged;
     private final Text text = new Text();
     private final Shop[] shops = new Shop[SHOPS];
@@ -551,11 +549,8 @@ public final class HatterTunes {
         final Rows book = new Rows(BOOK_KEPT);
         int size;
         int year;
-        Shop shop;
-
-        House(Shop shop) {
-            this.shop = shop;
-        }
+        /** Without CLAUSES as long as no SHOP holds, so that there is always one to ask. */
+        Shop shop = new Shop();
 
         void copyFrom(House other) {
             System.arraycopy(other.kinds, 0, kinds, 0, HEADS);

@@ -110,7 +110,7 @@ public final class LanguageTest {
                 must(comment || !code.matches(".*" + word + ".*"), word + " in line " + (k + 1));
             }
             // What is made by a call is counted: so all is made with the object.
-            must(comment || !code.contains("new ") || code.matches("\\s*((private )?final .*|shops\\[s\\]|tapes\\[t\\]|cells) = new .*"),
+            must(comment || !code.contains("new ") || code.matches("\\s*((private )?final .*|Shop shop|shops\\[s\\]|tapes\\[t\\]|cells) = new .*"),
                 "12: line " + (k + 1));
             if (code.matches(" {4}(?: {4})?\\S.*\\) \\{")) {
                 methodFrom = k;
